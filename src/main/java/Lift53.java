@@ -62,9 +62,9 @@ public final class Lift53 {
         }
     }
 
-    // Both directions take their step from the same two methods below: the
-    // transform is lossless only because each stage adds back exactly what the
-    // other direction took away. The sums stay int, since two shorts overflow one.
+    // Both directions share the next two methods: the transform is lossless only
+    // because each direction takes back exactly what the other one put in. The
+    // sums stay int, since the sum of two shorts may not fit into a short.
 
     private int prediction(int i) {
         return (left(i) + right(i)) >> 1;
