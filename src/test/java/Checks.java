@@ -1,33 +1,80 @@
-/** What the tests share: the count of wrong answers, and lines to test on. */
+import java.util.Arrays;
+
+/** Compares answers with those that are due, and tells each fault under the sentence it breaks. */
 final class Checks {
     static final int CELLS = 8;
     static final int NO_SUCH_CELL = 65536;
 
-    // Index 256 and 65536 + n would be valid if an index were narrowed.
-    static final int[] WRONG_INDEXES = {
-        -1, -2, -7, -8, 8, 9, 15, 16, 255, 256, 263, 65535, 65536, 65543,
-        -65536, -65535, Integer.MIN_VALUE, Integer.MIN_VALUE + 1,
-        Integer.MAX_VALUE, Integer.MAX_VALUE - 1
-    };
+    private static final int MOST_SHOWN = 5;
 
-    private static final int[] EDGE_VALUES = {-32768, -1, 0, 2, 32767};
-
-    private static final int MOST_SHOWN = 20;
-
+    private static String sentence = "";
+    private static int wrongInSentence = 0;
     private static int wrong = 0;
 
     private Checks() {
     }
 
-    static void due(String call, int got, int want) {
+    /** What follows, up to the next call, tests this sentence of the document. */
+    static void sentence(String words) {
+        sentence = words;
+        wrongInSentence = 0;
+    }
+
+    /** Tells that the sentence needs no more tests; loops over every int would tell faults for minutes. */
+    static boolean isBroken() {
+        return wrongInSentence > MOST_SHOWN;
+    }
+
+    static void dueSet(Lift53 x, int i, int v, int want) {
+        int got = x.set(i, v);
         if (got != want) {
-            tell(call + " answered " + got + ", due is " + want);
+            tell("set(" + i + ", " + v + ") answered " + got + ", due is " + want);
+        }
+    }
+
+    static void dueGet(Lift53 x, int i, int want) {
+        int got = x.get(i);
+        if (got != want) {
+            tell("get(" + i + ") answered " + got + ", due is " + want);
+        }
+    }
+
+    static void dueAnalyse(Lift53 x, int want) {
+        int got = x.analyse();
+        if (got != want) {
+            tell("analyse() answered " + got + ", due is " + want);
+        }
+    }
+
+    static void dueSynthesise(Lift53 x, int want) {
+        int got = x.synthesise();
+        if (got != want) {
+            tell("synthesise() answered " + got + ", due is " + want);
         }
     }
 
     static void dueLine(String when, Lift53 x, int... want) {
-        for (int i = 0; i < CELLS; i++) {
-            due(when + ": get(" + i + ")", x.get(i), want[i]);
+        int[] got = lineOf(x);
+        if (!Arrays.equals(got, want)) {
+            tell(when + " the line is " + Arrays.toString(got) + ", due is " + Arrays.toString(want));
+        }
+    }
+
+    /** Analysing the line before, on a new object, gives the line after and answers its first cell. */
+    static void analyses(int[] before, int... after) {
+        Lift53 x = holding(before);
+        int answer = x.analyse();
+        if (answer != after[0] || !Arrays.equals(lineOf(x), after)) {
+            tellTransform("analyse()", before, answer, lineOf(x), after);
+        }
+    }
+
+    /** As analyses, for synthesise. */
+    static void synthesises(int[] before, int... after) {
+        Lift53 x = holding(before);
+        int answer = x.synthesise();
+        if (answer != after[0] || !Arrays.equals(lineOf(x), after)) {
+            tellTransform("synthesise()", before, answer, lineOf(x), after);
         }
     }
 
@@ -37,10 +84,11 @@ final class Checks {
         }
     }
 
-    private static void tell(String fault) {
-        wrong++;
-        if (wrong <= MOST_SHOWN) {
-            System.out.println(fault);
+    static void doesNotThrow(String call, Runnable doIt) {
+        try {
+            doIt.run();
+        } catch (Throwable thrown) {
+            tell(call + " threw " + thrown);
         }
     }
 
@@ -59,38 +107,27 @@ final class Checks {
         return x;
     }
 
-    /** How many lines edgeLine tells: every way to put the five edge values in eight cells. */
-    static int edgeLines() {
-        int count = 1;
-        for (int i = 0; i < CELLS; i++) {
-            count *= EDGE_VALUES.length;
-        }
-        return count;
-    }
-
-    static int[] edgeLine(int number) {
+    static int[] lineOf(Lift53 x) {
         int[] cells = new int[CELLS];
-        int rest = number;
         for (int i = 0; i < CELLS; i++) {
-            cells[i] = EDGE_VALUES[rest % EDGE_VALUES.length];
-            rest /= EDGE_VALUES.length;
+            cells[i] = x.get(i);
         }
         return cells;
     }
 
-    /** A line of values from the whole range of a short, always the same for the same number. */
-    static int[] mixedLine(int number) {
-        int[] cells = new int[CELLS];
-        int state = number * 0x9E3779B1 + 12345;
-        for (int i = 0; i < CELLS; i++) {
-            state = state * 1664525 + 1013904223;
-            cells[i] = wrap(state >>> 16);
-        }
-        return cells;
+    private static void tellTransform(String call, int[] before, int answer, int[] got, int[] want) {
+        tell(call + " on " + Arrays.toString(before) + " answered " + answer + " and gave "
+            + Arrays.toString(got) + ", due is " + Arrays.toString(want));
     }
 
-    // Written without a cast to short, to be another reckoning than the program's.
-    static int wrap(int value) {
-        return Math.floorMod(value + 32768, 65536) - 32768;
+    private static void tell(String fault) {
+        if (wrongInSentence == 0) {
+            System.out.println("broken: " + sentence);
+        }
+        wrong++;
+        wrongInSentence++;
+        if (wrongInSentence <= MOST_SHOWN) {
+            System.out.println("  " + fault);
+        }
     }
 }
