@@ -1,4 +1,4 @@
-/** What holds throughout: the sentences under "What it is". */
+/** What holds throughout: the sentences under "What it is", but for the last, which is NothingThrowsTest's. */
 public final class TermsTest {
     private static final int[] ZEROS = new int[Checks.CELLS];
     private static final int[] START = {5, -9, 300, 32767, -32768, 12, 0, -7};
@@ -24,7 +24,6 @@ public final class TermsTest {
         shiftsFloor();
         storesWrap();
         storesDoNotClamp();
-        nothingThrows();
         Checks.end();
     }
 
@@ -303,36 +302,5 @@ public final class TermsTest {
         // Undo predict, to 32767 + 32767 and to -32768 - 32768.
         Checks.synthesises(Lines.striped(-16385, 32767), Lines.striped(32767, -2));
         Checks.synthesises(Lines.striped(16384, -32768), Lines.striped(-32768, 0));
-    }
-
-    private static void nothingThrows() {
-        Checks.sentence("Nothing here ever throws, and every call returns, "
-            + "for any arguments and in any state.");
-        Lines.each(TermsTest::answersOn);
-        for (int i : Lines.WRONG_INDEXES) {
-            answersAt(i);
-        }
-        for (int i = 0; i < Checks.CELLS; i++) {
-            answersAt(i);
-        }
-    }
-
-    private static void answersOn(int[] cells) {
-        Lift53 x = Checks.holding(cells);
-        Checks.doesNotThrow("analyse()", x::analyse);
-        Checks.doesNotThrow("synthesise()", x::synthesise);
-        Checks.doesNotThrow("synthesise()", x::synthesise);
-    }
-
-    private static void answersAt(int i) {
-        Lift53 fresh = new Lift53();
-        Lift53 used = Checks.holding(START);
-        used.analyse();
-        Checks.doesNotThrow("get(" + i + ")", () -> fresh.get(i));
-        Checks.doesNotThrow("get(" + i + ")", () -> used.get(i));
-        for (int v : Lines.VALUES) {
-            Checks.doesNotThrow("set(" + i + ", " + v + ")", () -> fresh.set(i, v));
-            Checks.doesNotThrow("set(" + i + ", " + v + ")", () -> used.set(i, v));
-        }
     }
 }
